@@ -221,7 +221,7 @@ public final class KeepOurPlace {
         if (what < 0 || what > 2) return BAD;
         int even = 0;
         int odd = 0;
-        for (int i = 0; i < line.ours; i++) {
+        for (int i = 0; i < line.ours && i < line.many; i++) {
             int seconds = till.seconds(line.kinds[i], i, i);
             if (i % 2 == 0) even += seconds;
             else odd += seconds;
@@ -278,8 +278,7 @@ public final class KeepOurPlace {
     }
 
     public int drawn(int seed) {
-        int all = things.all();
-        errands.survey(all);
+        errands.survey(things.all());
         return errands.mostGain(things.draw(seed));
     }
 
@@ -291,8 +290,7 @@ public final class KeepOurPlace {
             int chosen = errands.choose(things.draw(seed + i));
             if (errands.letBy(errands.backs[chosen]) == 0) calm++;
         }
-        int common = commonDivisor(calm, n);
-        return (part == 0 ? calm : n) / common;
+        return (part == 0 ? calm : n) / commonDivisor(calm, n);
     }
 
     public int image() {
@@ -386,6 +384,7 @@ public final class KeepOurPlace {
         return false;
     }
 
+    /** 1 at least, so that it may divide. */
     private static int commonDivisor(int a, int b) {
         int x = a;
         int y = b;
@@ -532,7 +531,7 @@ public final class KeepOurPlace {
         private final int[] tokens = new int[TAPE + 1];
         private final int[] places = new int[TAPE + 1];
         private final int[] values = new int[TAPE + 1];
-        private int count;
+        private int noted;
         private int here;
         private int token;
         private int fault;
@@ -567,7 +566,7 @@ public final class KeepOurPlace {
         // -- tokens
 
         private void scan() {
-            count = 0;
+            noted = 0;
             int at = 0;
             for (int i = 0; i < TAPE && at < size; i++) {
                 int c = tape[at];
@@ -575,7 +574,7 @@ public final class KeepOurPlace {
                     at++;
                 } else {
                     at = scanToken(at, c);
-                    if (tokens[count - 1] == WRONG) return;
+                    if (noted > 0 && tokens[noted - 1] == WRONG) return;
                 }
             }
             note(END, size, 0);
@@ -633,11 +632,11 @@ public final class KeepOurPlace {
         }
 
         private void note(int kind, int place, int value) {
-            if (count >= tokens.length) return;
-            tokens[count] = kind;
-            places[count] = place;
-            values[count] = value;
-            count++;
+            if (noted >= tokens.length) return;
+            tokens[noted] = kind;
+            places[noted] = place;
+            values[noted] = value;
+            noted++;
         }
 
         private static boolean isLetter(int c) {
@@ -746,7 +745,7 @@ public final class KeepOurPlace {
         }
 
         private void advance() {
-            if (fault != NONE || here + 1 >= count) return;
+            if (fault != NONE || here + 1 >= noted) return;
             here++;
             token = tokens[here];
         }
@@ -964,7 +963,7 @@ public final class KeepOurPlace {
         private void takePlan(int plan) {
             length = 0;
             int unit = 1;
-            for (int i = 1; i < THINGS && plan / unit >= 10; i++) unit *= 10;
+            for (int i = 1; i < THINGS && unit > 0 && plan / unit >= 10; i++) unit *= 10;
             for (int i = 0; i < THINGS && unit > 0; i++) {
                 int t = plan / unit % 10 - 1;
                 if (things.holds(t)) goTo(t);

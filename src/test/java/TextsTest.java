@@ -8,6 +8,7 @@ public final class TextsTest {
         bounds();
         faults();
         full();
+        longest();
         force();
         c.end();
     }
@@ -143,6 +144,8 @@ public final class TextsTest {
         fault("takes item;", 6);
         fault("takes itemsnumber;", 6);
         fault("takes a;", 6);
+        fault("takes itemsz;", 6);
+        fault("takes zitems;", 6);
         fault("takes Items;", 6);
         fault("takes 3 + + 4;", 10);
         fault("takes 3 + * 4;", 10);
@@ -194,6 +197,20 @@ public final class TextsTest {
         for (int i = 1; i < 6; i++) {
             c.due("9 was", x.force(i), i - 1);
             c.due("9 tells", x.told(0, 6), i);
+        }
+    }
+
+    /** As much as fits on a tape, five times. */
+    private static void longest() {
+        KeepOurPlace x = new KeepOurPlace();
+        x.customer(0, 10);
+        for (int i = 1; i < 6; i++) {
+            StringBuilder s = new StringBuilder("takes " + i);
+            while (s.length() < 139) s.append("+1");
+            c.due("8 the longest", Check.text(x, s + ";lets " + i + ";walks 2;   "), i);
+            x.force(i);
+            c.due("8 takes of it", x.told(0, 6), 66 + i);
+            c.due("8 lets of it", x.told(0, 7), i);
         }
     }
 
