@@ -1,6 +1,9 @@
 import java.util.Random;
 
-/** Long runs of drawn calls on the class and on the Model, told apart where they differ. */
+/**
+ * Long runs of drawn calls on the class and on the Model, told apart where they differ.
+ * A second word on the command line tells how many runs.
+ */
 public final class ModelTest {
     private static final int RUNS = 120, CALLS = 512, TEXTS = 20000;
     private static final int[] WILD = {
