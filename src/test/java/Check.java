@@ -20,6 +20,14 @@ final class Check {
         if (wrong != 0) System.exit(1);
     }
 
+    /** Thing 0 is 3 steps off, thing 1 one step, 2 steps lie between; TURN is 0. */
+    static KeepOurPlace twoThings() {
+        KeepOurPlace x = new KeepOurPlace();
+        x.thing(12, 50050);
+        x.thing(1, 10100);
+        return x;
+    }
+
     static void row(KeepOurPlace x, int sheet, int sort, int... numbers) {
         x.sheet(sheet, sort, numbers.length);
         for (int i = 0; i < numbers.length; i++) x.cell(sheet, i, numbers[i]);

@@ -11,14 +11,6 @@ public final class ErrandsTest {
         c.end();
     }
 
-    /** Thing 0 is 3 steps off, thing 1 one step, 2 steps lie between; TURN is 0. */
-    private static KeepOurPlace two() {
-        KeepOurPlace x = new KeepOurPlace();
-        x.thing(12, 50050);
-        x.thing(1, 10100);
-        return x;
-    }
-
     private static void tells(String name, KeepOurPlace x, int... due) {
         for (int what = 0; what < 4; what++) c.due("11 " + name + " " + what, x.errand(0, what), due[what]);
     }
@@ -32,7 +24,7 @@ public final class ErrandsTest {
     }
 
     private static void errand() {
-        KeepOurPlace x = two();
+        KeepOurPlace x = Check.twoThings();
         int[][] orders = {{}, {0}, {1}, {0, 1}, {1, 0}};
         int[][] due = {{0, 0, 0, 0}, {15, 0, 35, 50}, {5, 0, 5, 10}, {16, 0, 44, 60}, {20, 0, 40, 60}};
         for (int i = 0; i < orders.length; i++) {
@@ -56,7 +48,7 @@ public final class ErrandsTest {
     }
 
     private static void letBy() {
-        KeepOurPlace x = two();
+        KeepOurPlace x = Check.twoThings();
         Check.row(x, 0, 0, 0);
         x.customer(0, 10);
         tells("one behind, and 12 seconds yet", x, 15, 1, 28, 50);
@@ -82,7 +74,7 @@ public final class ErrandsTest {
     }
 
     private static void nearest() {
-        KeepOurPlace x = two();
+        KeepOurPlace x = Check.twoThings();
         nears("no time", x, 0, 0, 0);
         x.customer(1, 51);
         x.set(0, 0, 1);
@@ -108,7 +100,7 @@ public final class ErrandsTest {
     }
 
     private static void best() {
-        KeepOurPlace x = two();
+        KeepOurPlace x = Check.twoThings();
         bests("two", x, 12, 16, 44, 0);
         x.set(4, 0, 10);
         bests("both are dear", x, 2, 5, 5, 0);
@@ -139,7 +131,7 @@ public final class ErrandsTest {
     }
 
     private static void latest() {
-        KeepOurPlace x = two();
+        KeepOurPlace x = Check.twoThings();
         x.customer(0, 100);
         x.set(0, 0, 1);
         c.due("14 bare", x.latest(0, 0), 24);

@@ -12,15 +12,8 @@ public final class OtherwiseTest {
         c.end();
     }
 
-    private static KeepOurPlace two() {
-        KeepOurPlace x = new KeepOurPlace();
-        x.thing(12, 50050);
-        x.thing(1, 10100);
-        return x;
-    }
-
     private static void leave() {
-        KeepOurPlace x = two();
+        KeepOurPlace x = Check.twoThings();
         c.due("15 the far one", x.leave(), 0);
         x.set(4, 1, 0);
         c.due("15 of one thing that one", x.leave(), 0);
@@ -47,7 +40,7 @@ public final class OtherwiseTest {
     }
 
     private static void more() {
-        KeepOurPlace x = two();
+        KeepOurPlace x = Check.twoThings();
         c.due("16 the first", x.more(0), 44 - 5);
         c.due("16 the second", x.more(1), 44 - 35);
         x.set(4, 1, 1);
@@ -143,7 +136,7 @@ public final class OtherwiseTest {
     }
 
     private static void likely() {
-        KeepOurPlace x = two();
+        KeepOurPlace x = Check.twoThings();
         Check.row(x, 0, 0, 0, 1);
         c.due("20 two", x.likely(0), 2500 + 1000 - 100 * 16);
         Check.row(x, 0, 1);
