@@ -29,19 +29,8 @@ public final class TextsTest {
         c.due("7 room again", x.feed(1), 1);
     }
 
-    /** takes of a customer of 1 item, told by a line of 3 at our place 2; he is the second, his number 7. */
-    private static long takes(String e) {
-        KeepOurPlace x = new KeepOurPlace();
-        x.customer(0, 0);
-        x.customer(0, 17);
-        x.customer(0, 0);
-        x.set(0, 0, 2);
-        Check.rule(x, "takes " + e + " ; lets 0 ; walks 0 ;");
-        return x.told(1, 6);
-    }
-
     private static void value(String e, int want) {
-        c.due("8 " + e, takes(e), want);
+        c.due("8 " + e, Check.takes(e), want);
     }
 
     private static void values() {
@@ -200,11 +189,11 @@ public final class TextsTest {
         }
     }
 
-    /** As much as fits on a tape, five times. */
+    /** As much as fits on a tape, three times. */
     private static void longest() {
         KeepOurPlace x = new KeepOurPlace();
         x.customer(0, 10);
-        for (int i = 1; i < 6; i++) {
+        for (int i = 1; i < 4; i++) {
             StringBuilder s = new StringBuilder("takes " + i);
             while (s.length() < 139) s.append("+1");
             c.due("8 the longest", Check.text(x, s + ";lets " + i + ";walks 2;   "), i);
