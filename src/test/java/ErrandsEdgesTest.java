@@ -14,6 +14,7 @@ public final class ErrandsEdgesTest {
         thingsSheHas();
         backAboveTurn();
         ifThereIsOne();
+        secondsOfThoseLetBy();
         eightLetBy();
         whateverChance();
         nearestWhat();
@@ -190,6 +191,24 @@ public final class ErrandsEdgesTest {
         errand("he is ahead", x, 15, 0, 50, 50);
     }
 
+    private static void secondsOfThoseLetBy() {
+        c.says("11 SECONDS of those LET BY, by the KIND and the place of each");
+        KeepOurPlace x = Check.twoThings();
+        Check.row(x, 0, 0, 0);
+        x.customer(5, 0);
+        x.customer(0, 150);
+        x.customer(5, 150);
+        x.customer(3, 10);
+        x.set(0, 0, 1);
+        Check.rule(x, "takes place; lets 10; walks 2 + items;");
+        errand("15 of the second", x, 15, 1, 40, 50);
+        x.set(0, 0, 2);
+        x.set(1, 1, 0);
+        errand("half of 30 of the third", x, 15, 1, 50 - 11, 50);
+        x.set(1, 2, 14);
+        errand("14, then 23 of the fourth", x, 15, 2, 50 - 11 - 0, 50);
+    }
+
     private static void eightLetBy() {
         c.says("11 how many are LET BY: all 8");
         KeepOurPlace x = Check.twoThings();
@@ -236,6 +255,9 @@ public final class ErrandsEdgesTest {
         nearest("from where she is", three, 312, 2 + 3 + 2 * 4 + 2 * 5, 27);
         KeepOurPlace six = Check.shelves(9, 0, 0, 0, 0, 0, 0);
         nearest("of six", six, 123456, 0, 54);
+        KeepOurPlace unlike = Check.shelves(9, 3, 1, 2);
+        turnOf(unlike, 40);
+        nearest("of unlike ones the nearest", unlike, 231, 2 + 3 + 4 + 3 * 5, 27);
     }
 
     private static void nearestTurnOrLess() {
@@ -276,6 +298,15 @@ public final class ErrandsEdgesTest {
         c.each("best", x::best, -100000, -1, 4, 5, MIN, MAX);
     }
 
+    /** Things by their shelf and worth, two by two. */
+    private static KeepOurPlace worths(int... shelvesAndWorths) {
+        KeepOurPlace x = new KeepOurPlace();
+        for (int i = 0; i < shelvesAndWorths.length; i += 2) {
+            x.thing(shelvesAndWorths[i], 1000 * shelvesAndWorths[i + 1]);
+        }
+        return x;
+    }
+
     private static void bestOfFewest() {
         c.says("13 of like ones that of fewest THINGS");
         best("GAIN 0 as of none", Check.shelves(15, 12), 0, 0, 0, 0);
@@ -284,6 +315,7 @@ public final class ErrandsEdgesTest {
         best("of WORTH and no time", Check.shelves(1, 0, 0, 0), 123, 0, 3, 0);
         best("one by 2, two by 14 less 12", Check.shelves(7, 10, 1), 1, 5, 2, 0);
         best("one by 3, two by 16 less 12", Check.shelves(8, 10, 1), 12, 12, 4, 0);
+        best("35 less 22, as 65 less 52 of three", worths(4, 20, 4, 15, 40, 30, 20, 5), 34, 22, 13, 0);
     }
 
     private static void bestOfFirst() {
@@ -292,6 +324,7 @@ public final class ErrandsEdgesTest {
         best("either way round", Check.shelves(9, 10, 1), 12, 12, 6, 0);
         best("only one way round", Check.shelves(9, 1, 10, 30), 12, 12, 6, 0);
         best("the greater ahead of the less is more", Check.shelves(50, 1, 12), 21, 16, 84, 0);
+        best("65 less 25, as 75 less 35 of 214", worths(21, 20, 14, 20, 30, 10, 10, 35), 134, 25, 40, 0);
     }
 
     private static void bestMostGain() {
@@ -299,13 +332,16 @@ public final class ErrandsEdgesTest {
         best("far off is not worth it", Check.shelves(99, 99), 1, 90, 9, 0);
         best("10 for letting one by", bestBehind(40), 1, 90, 89, 1);
         best("with a rest", bestBehind(5), 1, 90, 14, 1);
+        KeepOurPlace two = bestBehind(27, 4, 40);
+        two.thing(99, 0);
+        best("81 seconds, then 12 more", two, 1, 90, 99 - 10 - 15, 2);
         best("all six", Check.shelves(99, 0, 0, 0, 0, 0, 0), 123456, 0, 594, 0);
         KeepOurPlace x = Check.shelves(99, 99);
         Check.rule(x, "takes 0; lets 0; walks 99;");
         best("none, though it is 0", x, 0, 0, 0, 0);
     }
 
-    private static KeepOurPlace bestBehind(int items) {
+    private static KeepOurPlace bestBehind(int... items) {
         KeepOurPlace x = Check.shelves(99, 99);
         Check.line(x, items);
         return x;

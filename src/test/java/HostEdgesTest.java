@@ -224,6 +224,11 @@ public final class HostEdgesTest {
         c.due("the other stays", digits(x, 1, 3), 567);
         c.due("just to the ends", x.copy(0, 1, 1, 0, 3), 3);
         c.due("they came", digits(x, 1, 3), 234);
+        x.sheet(0, 0, 0);
+        x.sheet(2, 0, 40);
+        c.due("the last of the other", x.copy(1, 2, 2, 39, 1), 1);
+        c.due("behind it", x.copy(1, 3, 2, 0, 1), -12);
+        c.due("more than it has", x.copy(2, 0, 1, 0, 4), -12);
     }
 
     private static void copyNone() {

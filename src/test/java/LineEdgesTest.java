@@ -265,6 +265,11 @@ public final class LineEdgesTest {
         int[] items = {0, 1, 2, 39, 40};
         c.inTurn("chatty", i -> seconds(3, items[i], 9), 45, 3 + 45 + 20, 6 + 45, 117 + 45 + 20, 120 + 45);
         c.inTurn("chatty of number 0", i -> seconds(3, items[i], 0), 0, 23, 6, 137, 120);
+        KeepOurPlace x = new KeepOurPlace();
+        x.customer(3, 11);
+        x.customer(3, 21);
+        Check.rule(x, "takes items + 1; lets 0; walks 0;");
+        c.inTurn("odd are the ITEMS, not what they take", i -> x.told(i, 6), 2 + 5 + 20, 6 + 5);
     }
 
     private static void halfIsCut() {

@@ -16,6 +16,7 @@ public final class OtherwiseEdgesTest {
         changeIfLess();
         changeFirstOfLikeOnes();
         changeOfEight();
+        changeOfKinds();
         linesWhat();
         linesOfNobody();
         linesOfLikeOnes();
@@ -138,6 +139,20 @@ public final class OtherwiseEdgesTest {
         c.due("OUR PLACE stays", x.count(2), 4);
     }
 
+    private static void changeOfKinds() {
+        c.says("18 (all else of both goes with them)");
+        KeepOurPlace x = line(1, 10);
+        x.customer(5, 180);
+        c.inTurn("half of 18 is less than 10", x::change, 1, 9);
+        x.set(1, 1, 20);
+        c.inTurn("half of 20 is not", x::change, -1, 10);
+        KeepOurPlace y = line(1, 10);
+        y.customer(1, 1);
+        c.inTurn("5 times NUMBER is less than 10", y::change, 1, 5);
+        y.set(2, 1, 2);
+        c.inTurn("10 is not", y::change, -1, 10);
+    }
+
     private static void linesWhat() {
         c.says("19 BAD.");
         KeepOurPlace x = line(1, 5, 4);
@@ -162,6 +177,10 @@ public final class OtherwiseEdgesTest {
         c.says("19 CUSTOMERS of even numbers stand in one, those of odd numbers in another one");
         c.inTurn("all 8", line(8, 1, 2, 3, 4, 5, 6, 7, 8)::lines, 1 + 3 + 5 + 7, 2 + 4 + 6 + 8, 0);
         c.inTurn("7", line(7, 1, 2, 3, 4, 5, 6, 7, 8)::lines, 16, 12, 1);
+        KeepOurPlace x = new KeepOurPlace();
+        for (int kind = 0; kind < 6; kind++) x.customer(kind, 101);
+        x.set(0, 0, 6);
+        c.inTurn("one of each KIND", x::lines, 30 + 30 + 31, 35 + 35 + 15, 1);
     }
 
     private static void likelyRefusals() {
@@ -188,6 +207,10 @@ public final class OtherwiseEdgesTest {
             x.set(5, 0, chances[i]);
             return x.likely(0);
         }, -1500, -1450, -50, 0, 50, 3500);
+        Check.row(x, 0, 0, 1);
+        c.due("the second one alone", x.likely(0), 1000 - 500);
+        Check.row(x, 0, 0, 1, 0);
+        c.due("the second one first", x.likely(0), 5000 + 1000 - 2000);
         KeepOurPlace six = Check.shelves(99, 0, 0, 0, 0, 0, 0);
         Check.row(six, 0, 0, 0, 1, 2, 3, 4, 5);
         c.due("the most", six.likely(0), 6 * 99 * 100);

@@ -21,6 +21,7 @@ public final class SlipsEdgesTest {
         filmRefusals();
         filmTruly();
         filmOfNoneAndOfAll();
+        filmByPlace();
         drawnBelowChance();
         drawnNeverAndAlways();
         drawnOfWhatIsThere();
@@ -238,6 +239,22 @@ public final class SlipsEdgesTest {
         c.due("all are theirs", x.served(0, -1), -1);
         c.due("KINDS of the last", x.served(0, 7), 0b001000);
         c.due("there are eight", x.cell(0, 8, 0), -12);
+    }
+
+    private static void filmByPlace() {
+        c.says("22, 23 his SECONDS, where he stands, on each SHEET");
+        for (int sheet = 0; sheet < 4; sheet++) {
+            KeepOurPlace x = three();
+            Check.rule(x, "takes 1 + place * 2; lets 0; walks 0;");
+            c.due("film", x.film(sheet, 3), 3);
+            c.due("they are theirs", x.served(sheet, -1), -1);
+            Check.row(x, sheet, 1, 1, 1 + 6, 1 + 6 + 15);
+            c.due("as told", x.served(sheet, -1), -1);
+            c.due("KINDS of the third", x.served(sheet, 2), 0b010111);
+            Check.row(x, sheet, 1, 1, 1 + 2, 1 + 2 + 15);
+            c.due("as if the second stood first", x.served(sheet, -1), 1);
+            c.due("KINDS of him", x.served(sheet, 1), 0);
+        }
     }
 
     // ---- drawn, chance

@@ -208,6 +208,8 @@ public final class TextsEdgesTest {
         onlyThese("takes (((((1", WHOLE + " )");
         for (String sign : new String[] {"+", "-", "*", "<"}) onlyThese("takes (((((1 " + sign, NAMES);
         onlyThese("takes (((((1 or", NAMES);
+        onlyThese("takes (((((1 and", NAMES);
+        onlyThese("takes ((((1 or 1 and (", NAMES);
         onlyThese("takes (((((1) +", ONE);
         onlyThese("takes (((((1) or", START);
         onlyThese("takes (((((1) or (", NAMES);
@@ -349,11 +351,17 @@ public final class TextsEdgesTest {
         }, due);
     }
 
-    /** Of the third of five customers, at our place 2. */
-    private static long third(int what, String rule) {
+    /** Five customers, the first of 1 item and number 4, each other one of 1 more; our place is 2. */
+    private static KeepOurPlace five() {
         KeepOurPlace x = new KeepOurPlace();
-        for (int i = 0; i < 5; i++) x.customer(0, 14 + i);
+        for (int i = 0; i < 5; i++) x.customer(0, 10 * (i + 1) + 4 + i);
         x.set(0, 0, 2);
+        return x;
+    }
+
+    /** Of the third of five. */
+    private static long third(int what, String rule) {
+        KeepOurPlace x = five();
         Check.rule(x, rule);
         return x.told(2, what);
     }
@@ -362,7 +370,7 @@ public final class TextsEdgesTest {
 
     private static void namesOfTakes() {
         c.says("8 takes (items, number: his; place: how many stand ahead of him; wait of takes 0; many; ours)");
-        c.inTurn("name", i -> third(6, "takes " + EACH_NAME[i] + "; lets 0; walks 0;"), 1, 6, 2, 2, 0, 5);
+        c.inTurn("name", i -> third(6, "takes " + EACH_NAME[i] + "; lets 0; walks 0;") / 3, 3, 6, 2, 2, 0, 5);
         KeepOurPlace x = Check.shelves(50, 12);
         Check.line(x, 1, 1, 1);
         Check.row(x, 0, 0, 0);
@@ -372,24 +380,23 @@ public final class TextsEdgesTest {
 
     private static void namesOfLets() {
         c.says("8 lets (items, number: his; place: how many stand ahead of him; wait: how many were LET BY ahead)");
-        c.inTurn("name", i -> third(7, "takes 0; lets " + EACH_NAME[i] + "; walks 0;"), 1, 6, 2, 2, 0, 5);
-        long[] minds = {3, 6 + 7 + 8, 2 + 3 + 4, 2 * 3, 0 + 1 + 2, 5 * 3};
+        c.inTurn("name", i -> third(7, "takes 0; lets " + EACH_NAME[i] + "; walks 0;"), 3, 6, 2, 2, 0, 5);
+        long[] minds = {3 + 4 + 5, 6 + 7 + 8, 2 + 3 + 4, 2 * 3, 0 + 1 + 2, 5 * 3};
         c.inTurn("MINDS of three LET BY, by name", i -> {
-            KeepOurPlace y = Check.shelves(99, 1);
-            for (int k = 0; k < 5; k++) y.customer(0, 14 + k);
-            y.set(0, 0, 2);
-            Check.row(y, 0, 0, 0);
-            Check.rule(y, "takes 0; lets " + EACH_NAME[i] + "; walks 1;");
-            return 99 - 2 - y.errand(0, 2);
+            KeepOurPlace x = five();
+            x.thing(1, 99000);
+            Check.row(x, 0, 0, 0);
+            Check.rule(x, "takes 0; lets " + EACH_NAME[i] + "; walks 1;");
+            return 99 - 2 - x.errand(0, 2);
         }, minds);
     }
 
     private static void namesOfWalks() {
         c.says("8 walks (items: how many THINGS she has; number, place, wait 0; many; ours)");
         c.inTurn("name", i -> {
-            KeepOurPlace x = Check.shelves(0, 1, 2);
-            for (int k = 0; k < 5; k++) x.customer(0, 14 + k);
-            x.set(0, 0, 2);
+            KeepOurPlace x = five();
+            x.thing(1, 0);
+            x.thing(2, 0);
             Check.row(x, 0, 0, 0, 1);
             Check.rule(x, "takes 0; lets 0; walks " + EACH_NAME[i] + ";");
             return x.errand(0, 0);
