@@ -324,6 +324,11 @@ public final class ErrandsEdgesTest {
         best("either way round", Check.shelves(9, 10, 1), 12, 12, 6, 0);
         best("only one way round", Check.shelves(9, 1, 10, 30), 12, 12, 6, 0);
         best("the greater ahead of the less is more", Check.shelves(50, 1, 12), 21, 16, 84, 0);
+        KeepOurPlace x = Check.shelves(10, 1, 10, 10);
+        Check.line(x, 8, 0);
+        x.set(0, 0, 1);
+        Check.rule(x, "takes 1; lets 99; walks 1 + items;");
+        best("any two are back by 8, all three are not", x, 12, 1 + 2 * 2 + 3, 20, 0);
         best("65 less 25, as 75 less 35 of 214", worths(21, 20, 14, 20, 30, 10, 10, 35), 134, 25, 40, 0);
     }
 

@@ -328,6 +328,10 @@ public final class TextsEdgesTest {
             }
             c.due("not " + operands[i], Check.takes("7 + (not " + operands[i] + ")"), i == 0 ? 8 : 7);
         }
+        KeepOurPlace nothing = new KeepOurPlace();
+        nothing.customer(0, 0);
+        Check.rule(nothing, "takes 0; lets not items + number + place; walks 0;");
+        c.due("not of 0, where all is 0", nothing.told(0, 7), 1);
         int[] left = {0, 1, 2, 1, -1, 0}, right = {0, 1, 1, 2, 0, -1};
         c.inTurn("<", i -> Check.takes("7 + (" + left[i] + " < " + right[i] + ")"), 7, 7, 7, 8, 8, 7);
     }
