@@ -1,5 +1,4 @@
 import java.lang.reflect.Field;
-import java.lang.reflect.Member;
 import java.lang.reflect.Method;
 import java.lang.reflect.Modifier;
 import java.util.ArrayList;
@@ -55,16 +54,22 @@ public final class FaceTest {
             c.holds(inner + " is static and not public",
                 Modifier.isStatic(inner.getModifiers()) && !Modifier.isPublic(inner.getModifiers()));
             hidden.addAll(Arrays.asList(inner.getDeclaredMethods()));
-            checkStatics(c, inner);
+            checkFields(c, inner);
         }
-        checkStatics(c, face);
-        for (Member m : hidden) c.holds("no private " + m, !publicNames.contains(m.getName()));
+        checkFields(c, face);
+        for (Method m : hidden) {
+            c.holds("no private " + m, !publicNames.contains(m.getName()));
+            c.holds("at most seven parameters: " + m, m.getParameterCount() <= 7);
+        }
         c.end();
     }
 
-    private static void checkStatics(Check c, Class<?> type) {
+    private static void checkFields(Check c, Class<?> type) {
+        int own = 0;
         for (Field f : type.getDeclaredFields()) {
-            if (Modifier.isStatic(f.getModifiers())) c.holds(f + " is final", Modifier.isFinal(f.getModifiers()));
+            if (!Modifier.isStatic(f.getModifiers())) own++;
+            else c.holds(f + " is final", Modifier.isFinal(f.getModifiers()));
         }
+        c.holds("some twenty fields at most: " + type + " has " + own, own <= 20);
     }
 }

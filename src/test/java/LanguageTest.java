@@ -26,6 +26,12 @@ public final class LanguageTest {
         while (m.find()) classes++;
         c.holds("at most twelve classes: " + classes, classes <= 12);
         c.holds("no object is made but in a constructor or a field: ", newsAreEarly(bare));
+        Matcher used = Pattern.compile("\\b(Math|Integer|Long|System|Arrays|List|WORDS|SIGNS|FIRST_RULE)\\.(\\w+)").matcher(bare);
+        while (used.find()) {
+            c.holds("of the library: " + used.group(), used.group(2).matches("min|max|abs|arraycopy|length|charAt|indexOf"));
+        }
+        int longest = longestMethod(bare);
+        c.holds("some sixty lines at most, the longest method has " + longest, longest > 0 && longest <= 60);
         c.end();
     }
 
@@ -36,5 +42,21 @@ public final class LanguageTest {
             if (!line.matches("\\s*(private final int\\[\\](\\[\\])? \\w+|\\w+) = new .*")) return false;
         }
         return true;
+    }
+
+    /** A method ends where a line's brace stands as far in as its head does. */
+    private static int longestMethod(String code) {
+        int longest = 0;
+        int from = 0;
+        String end = "";
+        String[] lines = code.split("\n");
+        for (int i = 0; i < lines.length; i++) {
+            if (lines[i].matches(" +(public|private) .*\\) \\{")) {
+                from = i;
+                end = lines[i].substring(0, lines[i].indexOf('p')) + "}";
+            }
+            if (lines[i].equals(end)) longest = Math.max(longest, i - from + 1);
+        }
+        return longest;
     }
 }
